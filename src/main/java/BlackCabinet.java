@@ -54,7 +54,7 @@ public final class BlackCabinet {
     private final Standing stand = new Standing();
     private final Standing trial = new Standing();
     private final Past past = new Past();
-    private final Reader reader = new Reader();
+    private final Reader reader = new Reader(tape, draft);
     private final Row line = new Row(here);
     private final Doer doer = new Doer(here, line);
     private final Planner planner = new Planner(here);
@@ -100,7 +100,7 @@ public final class BlackCabinet {
             return NO_NUMBER;
         }
         tapeLength = 0;
-        reader.read(tape, n, draft);
+        reader.read(n);
         faultKind = reader.faultKind;
         faultPlace = reader.faultPlace;
         if (faultKind != 0) {
@@ -172,7 +172,7 @@ public final class BlackCabinet {
     }
 
     public int copies(int k, int h) {
-        return here.hasLetter(k) && here.hasHand(h) ? here.copying(k, h) : NO_SUCH;
+        return here.hasLetter(k) && here.hasHand(h) ? here.copyTime(k, h) : NO_SUCH;
     }
 
     public int name(int i) {
@@ -337,7 +337,7 @@ public final class BlackCabinet {
         if (noon < 0 || noon > MAX_MINUTE) {
             return NO_NUMBER;
         }
-        return planner.mostWorth(stand.read, stand.awake, noon);
+        return planner.mostWorth(here.allLetters() & ~stand.read, stand.awake, noon);
     }
 
     public int noonFor(int worth) {
@@ -346,9 +346,10 @@ public final class BlackCabinet {
         }
         int open = here.allLetters() & ~stand.read;
         int least = MAX_MINUTE + 1;
+        planner.useHands(stand.awake);
         for (int set = 0; set < SETS; set++) {
             if ((set & ~open) == 0 && here.worthOf(set) >= worth) {
-                least = Math.min(least, planner.soonest(stand.awake, set));
+                least = Math.min(least, planner.soonest(set));
             }
         }
         return least <= MAX_MINUTE ? least : NONE;
@@ -358,16 +359,18 @@ public final class BlackCabinet {
         if (!here.hasHand(h)) {
             return NO_SUCH;
         }
-        return planner.mostWorth(stand.read, stand.awake, here.noon)
-            - planner.mostWorth(stand.read, stand.awake & ~(1 << h), here.noon);
+        int open = here.allLetters() & ~stand.read;
+        return planner.mostWorth(open, stand.awake, here.noon)
+            - planner.mostWorth(open, stand.awake & ~(1 << h), here.noon);
     }
 
     public int hindrance() {
+        int open = here.allLetters() & ~stand.read;
         int first = NONE;
         int most = -1;
         for (int k = 0; k < here.letters; k++) {
-            if ((stand.read >> k & 1) == 0) {
-                int left = planner.mostWorth(stand.read | 1 << k, stand.awake, here.noon);
+            if ((open >> k & 1) != 0) {
+                int left = planner.mostWorth(open & ~(1 << k), stand.awake, here.noon);
                 if (left > most) {
                     most = left;
                     first = k;
@@ -378,10 +381,11 @@ public final class BlackCabinet {
     }
 
     public int hopeless() {
+        planner.useHands(stand.awake);
         int set = 0;
         for (int k = 0; k < here.letters; k++) {
             boolean open = (stand.read >> k & 1) == 0;
-            if (open && planner.soonest(stand.awake, 1 << k) > here.noon) {
+            if (open && planner.soonest(1 << k) > here.noon) {
                 set |= 1 << k;
             }
         }
@@ -735,7 +739,9 @@ public final class BlackCabinet {
         final int[] opening = new int[MAX_LETTERS];
         final int[] mending = new int[MAX_LETTERS];
         final int[] showing = new int[MAX_LETTERS];
-        final int[] copyTimes = new int[MAX_LETTERS * MAX_HANDS];
+        final int[] copying = new int[MAX_LETTERS * MAX_HANDS];
+        /** The hands that read each letter, as bits. */
+        final int[] readers = new int[MAX_LETTERS];
         /** The Planner's table, by hands awake and letters; it goes with the room so that images keep it. */
         final int[] soonest = new int[HAND_SETS * SETS];
         int soonestKnown = 0;
@@ -771,7 +777,8 @@ public final class BlackCabinet {
             System.arraycopy(other.opening, 0, opening, 0, MAX_LETTERS);
             System.arraycopy(other.mending, 0, mending, 0, MAX_LETTERS);
             System.arraycopy(other.showing, 0, showing, 0, MAX_LETTERS);
-            System.arraycopy(other.copyTimes, 0, copyTimes, 0, MAX_LETTERS * MAX_HANDS);
+            System.arraycopy(other.copying, 0, copying, 0, MAX_LETTERS * MAX_HANDS);
+            System.arraycopy(other.readers, 0, readers, 0, MAX_LETTERS);
             System.arraycopy(other.soonest, 0, soonest, 0, HAND_SETS * SETS);
         }
 
@@ -799,18 +806,19 @@ public final class BlackCabinet {
             return hasLetter(k) && what >= 0 && what < FACTS ? facts[k * FACTS + what] : 0;
         }
 
-        int copying(int k, int h) {
-            return hasLetter(k) && hasHand(h) ? copyTimes[k * MAX_HANDS + h] : 0;
+        int copyTime(int k, int h) {
+            return hasLetter(k) && hasHand(h) ? copying[k * MAX_HANDS + h] : 0;
         }
 
-        boolean reads(int h, int k) {
-            return hasHand(h) && hasLetter(k) && (tongues[h] >> fact(k, TONGUE) & 1) != 0;
+        /** Of some hands those that read a letter, as bits. */
+        int readersOf(int k, int some) {
+            return hasLetter(k) ? readers[k] & some : 0;
         }
 
         int lettersOf(int h) {
             int set = 0;
             for (int k = 0; k < letters; k++) {
-                if (reads(h, k)) {
+                if (readersOf(k, 1 << h) != 0) {
                     set |= 1 << k;
                 }
             }
@@ -960,364 +968,117 @@ public final class BlackCabinet {
         }
     }
 
-    /** Reads a text into a Room; the first fault stops it, and the Room is then of no use. */
+    /** Reads the tape into a Room; the first fault stops it, and the Room is then of no use. */
     private static final class Reader {
+        /** Kinds of tokens: these, the signs by their own numbers, and the words that the text's language has. */
         private static final int END = 0;
-        private static final int WORD = 1;
-        private static final int NUMBER = 2;
-        private static final int MARK = 3;
-        private static final int STRANGE = 4;
+        private static final int NUMBER = 1;
+        private static final int STRANGE = 2;
+        private static final int OTHER_WORD = 200;
+        private static final int NOON = 201;
+        private static final int HAND = 202;
+        private static final int SKILL = 203;
+        private static final int COURT_WORD = 204;
+        private static final int LETTER = 205;
+        private static final int TONGUE_WORD = 206;
+        private static final int PAGES_WORD = 207;
+        private static final int WORTH_WORD = 208;
+        private static final int SEAL_WORD = 209;
+        private static final int SIGN_WORD = 210;
+        private static final int SAYS_WORD = 211;
+        private static final int YES_WORD = 212;
+        private static final int NO_WORD = 213;
+        private static final int OPENS = 214;
+        private static final int COPIES = 215;
+        private static final int MENDS = 216;
+        private static final int SHOWS = 217;
+        private static final int PRIOR = 218;
+        private static final int NAME = 219;
         private static final int MAX_DEPTH = 6;
 
-        private byte[] text = new byte[0];
-        private int length = 0;
-        private int kind = END;
-        private int start = 0;
-        private int end = 0;
-        private int value = 0;
-        private Room told = new Room();
+        private final byte[] text;
+        private final Room told;
         private final Laws laws = new Laws();
+        private final int[] kinds = new int[MAX_TEXT + 1];
+        private final int[] starts = new int[MAX_TEXT + 1];
+        /** Of a number what it is, of a word how long it is. */
+        private final int[] values = new int[MAX_TEXT + 1];
+        private int at = 0;
         int faultKind = 0;
         int faultPlace = NONE;
 
-        void read(byte[] bytes, int count, Room into) {
-            text = bytes;
-            length = Math.min(count, bytes.length);
-            end = 0;
-            told = into;
+        Reader(byte[] text, Room told) {
+            this.text = text;
+            this.told = told;
+        }
+
+        void read(int length) {
             told.clear();
             laws.clear();
             faultKind = 0;
             faultPlace = NONE;
-            step();
-            if (readNoon()) {
-                readLines();
+            scan(Math.min(length, text.length));
+            at = 0;
+            boolean fine = readNoon() && endLine();
+            for (int i = 0; i < MAX_TEXT && fine && kinds[at] != END; i++) {
+                fine = readLine() && endLine();
             }
-            if (faultKind == 0) {
+            if (fine) {
                 laws.workOut(told);
             }
         }
 
-        private boolean readNoon() {
-            if (!takeWord("noon")) {
-                return false;
-            }
-            told.noon = takeNumber(1, 300);
-            return faultKind == 0 && endLine();
-        }
-
-        private void readLines() {
-            boolean fine = true;
-            for (int i = 0; i < MAX_TEXT && fine && kind != END; i++) {
-                fine = readLine() && endLine();
-            }
-        }
-
-        private boolean endLine() {
-            told.lines++;
-            return takeMark(';');
-        }
-
-        private boolean readLine() {
-            if (isWord("hand")) {
-                return readHand();
-            }
-            if (isWord("court")) {
-                return readCourt();
-            }
-            if (isWord("letter")) {
-                return readLetter();
-            }
-            if (isWord("prior")) {
-                step();
-                told.prior = takeNumber(0, 100);
-                return faultKind == 0;
-            }
-            if (isWord("name")) {
-                return readName();
-            }
-            int law = lawWord();
-            return law == NONE ? fail(2) : readLaw(law);
-        }
-
-        private int lawWord() {
-            if (isWord("opens")) {
-                return Laws.OPENS;
-            }
-            if (isWord("copies")) {
-                return Laws.COPIES;
-            }
-            if (isWord("mends")) {
-                return Laws.MENDS;
-            }
-            return isWord("shows") ? Laws.SHOWS : NONE;
-        }
-
-        private boolean readHand() {
-            int h = told.hands;
-            if (h >= MAX_HANDS) {
-                return fail(4);
-            }
-            step();
-            int tongues = 1 << takeNumber(0, 3);
-            for (int i = 0; i < MAX_TEXT && faultKind == 0 && kind == NUMBER; i++) {
-                tongues |= 1 << takeNumber(0, 3);
-            }
-            int skill = 0;
-            if (faultKind == 0 && isWord("skill")) {
-                step();
-                skill = takeNumber(0, 9);
-            }
-            told.tongues[h] = tongues;
-            told.skills[h] = skill;
-            told.hands++;
-            return faultKind == 0;
-        }
-
-        private boolean readCourt() {
-            int c = told.courts;
-            if (c >= MAX_COURTS) {
-                return fail(4);
-            }
-            step();
-            told.truths[c] = takeNumber(0, 100);
-            told.courts++;
-            return faultKind == 0;
-        }
-
-        private boolean readLetter() {
-            int k = told.letters;
-            if (k >= MAX_LETTERS) {
-                return fail(4);
-            }
-            step();
-            int at = k * FACTS;
-            told.facts[at + COURT] = takeNumber(0, told.courts - 1);
-            if (faultKind != 0 || !takeWord("tongue")) {
-                return false;
-            }
-            told.facts[at + TONGUE] = takeNumber(0, 3);
-            told.facts[at + PAGES] = 1;
-            told.facts[at + WORTH] = 1;
-            boolean fine = faultKind == 0;
-            for (int i = 0; i < MAX_TEXT && fine && kind == WORD; i++) {
-                fine = readFlag(at);
-            }
-            told.letters++;
-            return fine;
-        }
-
-        private boolean readFlag(int at) {
-            if (isWord("says")) {
-                step();
-                return readSaying(at);
-            }
-            if (isWord("pages")) {
-                return readNumberFlag(at + PAGES, 1, 99);
-            }
-            if (isWord("worth")) {
-                return readNumberFlag(at + WORTH, 0, 99);
-            }
-            if (isWord("seal")) {
-                return readNumberFlag(at + SEAL, 0, 9);
-            }
-            return isWord("sign") ? readNumberFlag(at + SIGN, 0, 9) : fail(2);
-        }
-
-        private boolean readNumberFlag(int at, int least, int most) {
-            step();
-            int n = takeNumber(least, most);
-            if (faultKind == 0 && at >= 0 && at < told.facts.length) {
-                told.facts[at] = n;
-            }
-            return faultKind == 0;
-        }
-
-        private boolean readSaying(int at) {
-            int says = isWord("yes") ? YES : isWord("no") ? NO : 0;
-            if (says == 0) {
-                return fail(2);
-            }
-            told.facts[at + SAYS] = says;
-            step();
-            return true;
-        }
-
-        private boolean readName() {
-            step();
-            if (kind != WORD || end - start > MAX_NAME) {
-                return fail(2);
-            }
-            told.nameLength = end - start;
-            for (int i = 0; i < told.nameLength; i++) {
-                told.nameLetters[i] = text[start + i] - 'a';
-            }
-            step();
-            return true;
-        }
-
-        private boolean readLaw(int law) {
-            step();
-            if (!takeMark(':')) {
-                return false;
-            }
-            laws.begin(law);
-            boolean fine = readSum(law, 0);
-            laws.finish(law);
-            return fine;
-        }
-
-        private boolean readSum(int law, int depth) {
-            if (!readTerm(law, depth)) {
-                return false;
-            }
-            for (int i = 0; i < MAX_TEXT && (isMark('+') || isMark('-')); i++) {
-                int op = isMark('+') ? Laws.ADD : Laws.LESS;
-                step();
-                if (!readTerm(law, depth)) {
-                    return false;
+        private void scan(int length) {
+            int tokens = 0;
+            int from = 0;
+            while (from < length && tokens < MAX_TEXT) {
+                int to = from + 1;
+                if (text[from] != 10 && text[from] != 32) {
+                    to = tokenEnd(from, length);
+                    starts[tokens] = from;
+                    setToken(tokens, from, to);
+                    tokens++;
                 }
-                laws.add(op);
+                from = to;
             }
-            return true;
+            kinds[tokens] = END;
+            starts[tokens] = length;
         }
 
-        private boolean readTerm(int law, int depth) {
-            if (!readAtom(law, depth)) {
-                return false;
-            }
-            for (int i = 0; i < MAX_TEXT && isMark('*'); i++) {
-                step();
-                if (!readAtom(law, depth)) {
-                    return false;
+        private int tokenEnd(int from, int length) {
+            int to = from + 1;
+            if (isSmall(text[from])) {
+                while (to < length && isSmall(text[to])) {
+                    to++;
                 }
-                laws.add(Laws.TIMES);
-            }
-            return true;
-        }
-
-        private boolean readAtom(int law, int depth) {
-            if (isMark('(')) {
-                if (depth >= MAX_DEPTH) {
-                    return fail(4);
-                }
-                step();
-                return readSum(law, depth + 1) && takeMark(')');
-            }
-            int op = kind == NUMBER ? value : factWord(law);
-            if (op == NONE) {
-                return fail(2);
-            }
-            laws.add(op);
-            step();
-            return true;
-        }
-
-        private int factWord(int law) {
-            if (isWord("pages")) {
-                return Laws.FACT + PAGES;
-            }
-            if (isWord("seal")) {
-                return Laws.FACT + SEAL;
-            }
-            if (isWord("sign")) {
-                return Laws.FACT + SIGN;
-            }
-            if (isWord("tongue")) {
-                return Laws.FACT + TONGUE;
-            }
-            return law == Laws.COPIES && isWord("skill") ? Laws.SKILL : NONE;
-        }
-
-        /** Of one token the least kind counts: a strange one is that first of all. */
-        private boolean fail(int why) {
-            faultKind = kind == STRANGE ? 1 : why;
-            faultPlace = start;
-            return false;
-        }
-
-        private boolean takeWord(String word) {
-            if (!isWord(word)) {
-                return fail(2);
-            }
-            step();
-            return true;
-        }
-
-        private boolean takeMark(char mark) {
-            if (!isMark(mark)) {
-                return fail(2);
-            }
-            step();
-            return true;
-        }
-
-        /** With a fault 0, which its callers may use like any other number till they look at the fault. */
-        private int takeNumber(int least, int most) {
-            if (kind != NUMBER) {
-                fail(2);
-                return 0;
-            }
-            int n = value;
-            if (n < least || n > most) {
-                fail(3);
-                return 0;
-            }
-            step();
-            return n;
-        }
-
-        private boolean isWord(String word) {
-            if (kind != WORD || end - start != word.length()) {
-                return false;
-            }
-            for (int i = 0; i < word.length(); i++) {
-                if (text[start + i] != word.charAt(i)) {
-                    return false;
+            } else if (isDigit(text[from])) {
+                while (to < length && isDigit(text[to])) {
+                    to++;
                 }
             }
-            return true;
+            return to;
         }
 
-        private boolean isMark(char mark) {
-            return kind == MARK && value == mark;
-        }
-
-        private void step() {
-            start = end;
-            while (start < length && (text[start] == 10 || text[start] == 32)) {
-                start++;
-            }
-            end = start;
-            if (start >= length) {
-                kind = END;
-            } else if (isSmall(text[start])) {
-                stepWord();
-            } else if (isDigit(text[start])) {
-                stepNumber();
+        private void setToken(int token, int from, int to) {
+            int first = text[from];
+            values[token] = to - from;
+            if (isSmall(first)) {
+                int word = lineWord(from, to);
+                kinds[token] = word != OTHER_WORD ? word : partWord(from, to);
+            } else if (isDigit(first)) {
+                kinds[token] = to - from > 3 ? STRANGE : NUMBER;
+                values[token] = numberAt(from, to);
             } else {
-                value = text[start];
-                end = start + 1;
-                kind = isSign(text[start]) ? MARK : STRANGE;
+                kinds[token] = isSign(first) ? first : STRANGE;
             }
         }
 
-        private void stepWord() {
-            kind = WORD;
-            while (end < length && isSmall(text[end])) {
-                end++;
+        private int numberAt(int from, int to) {
+            int n = 0;
+            for (int i = from; i < to && i < from + 3; i++) {
+                n = n * 10 + (text[i] - '0');
             }
-        }
-
-        private void stepNumber() {
-            value = 0;
-            while (end < length && isDigit(text[end])) {
-                if (end - start < 3) {
-                    value = value * 10 + (text[end] - '0');
-                }
-                end++;
-            }
-            kind = end - start > 3 ? STRANGE : NUMBER;
+            return n;
         }
 
         private static boolean isSmall(int b) {
@@ -1331,14 +1092,305 @@ public final class BlackCabinet {
         private static boolean isSign(int b) {
             return b == ';' || b == ':' || b == '+' || b == '-' || b == '*' || b == '(' || b == ')';
         }
+
+        private int lineWord(int from, int to) {
+            return same(from, to, "noon") ? NOON
+                : same(from, to, "hand") ? HAND
+                : same(from, to, "court") ? COURT_WORD
+                : same(from, to, "letter") ? LETTER
+                : same(from, to, "opens") ? OPENS
+                : same(from, to, "copies") ? COPIES
+                : same(from, to, "mends") ? MENDS
+                : same(from, to, "shows") ? SHOWS
+                : same(from, to, "prior") ? PRIOR
+                : same(from, to, "name") ? NAME
+                : OTHER_WORD;
+        }
+
+        private int partWord(int from, int to) {
+            return same(from, to, "skill") ? SKILL
+                : same(from, to, "tongue") ? TONGUE_WORD
+                : same(from, to, "pages") ? PAGES_WORD
+                : same(from, to, "worth") ? WORTH_WORD
+                : same(from, to, "seal") ? SEAL_WORD
+                : same(from, to, "sign") ? SIGN_WORD
+                : same(from, to, "says") ? SAYS_WORD
+                : same(from, to, "yes") ? YES_WORD
+                : same(from, to, "no") ? NO_WORD
+                : OTHER_WORD;
+        }
+
+        private boolean same(int from, int to, String word) {
+            if (to - from != word.length()) {
+                return false;
+            }
+            for (int i = 0; i < word.length(); i++) {
+                if (text[from + i] != word.charAt(i)) {
+                    return false;
+                }
+            }
+            return true;
+        }
+
+        private boolean readNoon() {
+            if (!takeToken(NOON)) {
+                return false;
+            }
+            told.noon = takeNumber(1, 300);
+            return faultKind == 0;
+        }
+
+        private boolean endLine() {
+            told.lines++;
+            return takeToken(';');
+        }
+
+        private boolean readLine() {
+            switch (kinds[at]) {
+                case HAND:
+                    return readHand();
+                case COURT_WORD:
+                    return readCourt();
+                case LETTER:
+                    return readLetter();
+                case OPENS:
+                    return readLaw(Laws.OPENING);
+                case COPIES:
+                    return readLaw(Laws.COPYING);
+                case MENDS:
+                    return readLaw(Laws.MENDING);
+                case SHOWS:
+                    return readLaw(Laws.SHOWING);
+                case PRIOR:
+                    return readPrior();
+                case NAME:
+                    return readName();
+                default:
+                    return fail(2);
+            }
+        }
+
+        private boolean readHand() {
+            int h = told.hands;
+            if (h >= MAX_HANDS) {
+                return fail(4);
+            }
+            at++;
+            told.tongues[h] = 1 << takeNumber(0, 3);
+            for (int i = 0; i < MAX_TEXT && faultKind == 0 && kinds[at] == NUMBER; i++) {
+                told.tongues[h] |= 1 << takeNumber(0, 3);
+            }
+            if (faultKind == 0 && kinds[at] == SKILL) {
+                at++;
+                told.skills[h] = takeNumber(0, 9);
+            }
+            told.hands++;
+            return faultKind == 0;
+        }
+
+        private boolean readCourt() {
+            int c = told.courts;
+            if (c >= MAX_COURTS) {
+                return fail(4);
+            }
+            at++;
+            told.truths[c] = takeNumber(0, 100);
+            told.courts++;
+            return faultKind == 0;
+        }
+
+        private boolean readLetter() {
+            int k = told.letters;
+            if (k >= MAX_LETTERS) {
+                return fail(4);
+            }
+            at++;
+            int facts = k * FACTS;
+            told.facts[facts + COURT] = takeNumber(0, told.courts - 1);
+            if (faultKind != 0 || !takeToken(TONGUE_WORD)) {
+                return false;
+            }
+            told.facts[facts + TONGUE] = takeNumber(0, 3);
+            told.facts[facts + PAGES] = 1;
+            told.facts[facts + WORTH] = 1;
+            for (int i = 0; i < MAX_TEXT && faultKind == 0 && kinds[at] >= OTHER_WORD; i++) {
+                readFlag(facts);
+            }
+            told.letters++;
+            return faultKind == 0;
+        }
+
+        private void readFlag(int facts) {
+            int flag = flagFact();
+            if (flag == NONE) {
+                fail(2);
+                return;
+            }
+            at++;
+            int n = 0;
+            if (flag == SAYS) {
+                n = takeSaying();
+            } else {
+                int most = flag == PAGES || flag == WORTH ? 99 : 9;
+                n = takeNumber(flag == PAGES ? 1 : 0, most);
+            }
+            if (facts >= 0 && facts + FACTS <= told.facts.length) {
+                told.facts[facts + flag] = n;
+            }
+        }
+
+        private int flagFact() {
+            switch (kinds[at]) {
+                case WORTH_WORD:
+                    return WORTH;
+                case SAYS_WORD:
+                    return SAYS;
+                case PAGES_WORD:
+                    return PAGES;
+                case SEAL_WORD:
+                    return SEAL;
+                case SIGN_WORD:
+                    return SIGN;
+                default:
+                    return NONE;
+            }
+        }
+
+        private int takeSaying() {
+            int says = kinds[at] == YES_WORD ? YES : kinds[at] == NO_WORD ? NO : 0;
+            if (says == 0) {
+                fail(2);
+            } else {
+                at++;
+            }
+            return says;
+        }
+
+        private boolean readPrior() {
+            at++;
+            told.prior = takeNumber(0, 100);
+            return faultKind == 0;
+        }
+
+        private boolean readName() {
+            at++;
+            int size = values[at];
+            if (kinds[at] < OTHER_WORD || size > MAX_NAME) {
+                return fail(2);
+            }
+            told.nameLength = size;
+            for (int i = 0; i < size; i++) {
+                told.nameLetters[i] = text[starts[at] + i] - 'a';
+            }
+            at++;
+            return true;
+        }
+
+        private boolean readLaw(int law) {
+            at++;
+            if (!takeToken(':')) {
+                return false;
+            }
+            laws.begin(law);
+            boolean fine = readSum(law, 0);
+            laws.finish(law);
+            return fine;
+        }
+
+        private boolean readSum(int law, int depth) {
+            boolean fine = readTerm(law, depth);
+            for (int i = 0; i < MAX_TEXT && fine && (kinds[at] == '+' || kinds[at] == '-'); i++) {
+                int op = kinds[at] == '+' ? Laws.ADD : Laws.LESS;
+                at++;
+                fine = readTerm(law, depth);
+                laws.add(op);
+            }
+            return fine;
+        }
+
+        private boolean readTerm(int law, int depth) {
+            boolean fine = readAtom(law, depth);
+            for (int i = 0; i < MAX_TEXT && fine && kinds[at] == '*'; i++) {
+                at++;
+                fine = readAtom(law, depth);
+                laws.add(Laws.TIMES);
+            }
+            return fine;
+        }
+
+        private boolean readAtom(int law, int depth) {
+            if (kinds[at] == '(') {
+                if (depth >= MAX_DEPTH) {
+                    return fail(4);
+                }
+                at++;
+                return readSum(law, depth + 1) && takeToken(')');
+            }
+            int op = atomOp(law);
+            if (op == NONE) {
+                return fail(2);
+            }
+            laws.add(op);
+            at++;
+            return true;
+        }
+
+        private int atomOp(int law) {
+            switch (kinds[at]) {
+                case NUMBER:
+                    return values[at];
+                case PAGES_WORD:
+                    return Laws.FACT + PAGES;
+                case SEAL_WORD:
+                    return Laws.FACT + SEAL;
+                case SIGN_WORD:
+                    return Laws.FACT + SIGN;
+                case TONGUE_WORD:
+                    return Laws.FACT + TONGUE;
+                case SKILL:
+                    return law == Laws.COPYING ? Laws.SKILL : NONE;
+                default:
+                    return NONE;
+            }
+        }
+
+        private boolean takeToken(int kind) {
+            if (kinds[at] != kind) {
+                return fail(2);
+            }
+            at++;
+            return true;
+        }
+
+        /** With a fault 0, which its callers may use like any other number till they look at the fault. */
+        private int takeNumber(int least, int most) {
+            int n = values[at];
+            if (kinds[at] != NUMBER) {
+                fail(2);
+                return 0;
+            }
+            if (n < least || n > most) {
+                fail(3);
+                return 0;
+            }
+            at++;
+            return n;
+        }
+
+        /** Of one token the least kind counts: a strange one is that first of all. */
+        private boolean fail(int why) {
+            faultKind = kinds[at] == STRANGE ? 1 : why;
+            faultPlace = starts[at];
+            return false;
+        }
     }
 
     /** The laws with their signs behind what they join, so that a stack works them out. */
     private static final class Laws {
-        static final int OPENS = 0;
-        static final int COPIES = 1;
-        static final int MENDS = 2;
-        static final int SHOWS = 3;
+        static final int OPENING = 0;
+        static final int COPYING = 1;
+        static final int MENDING = 2;
+        static final int SHOWING = 3;
         static final int FACT = 1000;
         static final int SKILL = 1100;
         static final int ADD = 1200;
@@ -1383,20 +1435,22 @@ public final class BlackCabinet {
 
         void workOut(Room r) {
             for (int k = 0; k < r.letters && k < MAX_LETTERS; k++) {
-                r.opening[k] = told(OPENS) ? within(result(OPENS, r, k, 0), 0, MAX_MINUTE) : 2;
-                r.mending[k] = told(MENDS) ? within(result(MENDS, r, k, 0), 0, MAX_MINUTE) : r.fact(k, SEAL) + 3;
-                r.showing[k] = told(SHOWS) ? within(result(SHOWS, r, k, 0), 0, 100) : 10;
+                r.opening[k] = told(OPENING) ? within(result(OPENING, r, k, 0), 0, MAX_MINUTE) : 2;
+                r.mending[k] = told(MENDING) ? within(result(MENDING, r, k, 0), 0, MAX_MINUTE) : r.fact(k, SEAL) + 3;
+                r.showing[k] = told(SHOWING) ? within(result(SHOWING, r, k, 0), 0, 100) : 10;
+                r.readers[k] = 0;
                 for (int h = 0; h < r.hands && h < MAX_HANDS; h++) {
                     int skill = r.skills[h];
-                    r.copyTimes[k * MAX_HANDS + h] = told(COPIES)
-                        ? within(result(COPIES, r, k, skill), 0, MAX_MINUTE)
+                    r.copying[k * MAX_HANDS + h] = told(COPYING)
+                        ? within(result(COPYING, r, k, skill), 0, MAX_MINUTE)
                         : within(r.fact(k, PAGES) * 5 - skill, 1, MAX_MINUTE);
+                    r.readers[k] |= (r.tongues[h] >> r.fact(k, TONGUE) & 1) << h;
                 }
             }
         }
 
         private boolean told(int law) {
-            return to[law] > from[law];
+            return law >= 0 && law < LAWS && to[law] > from[law];
         }
 
         private static int within(long n, int least, int most) {
@@ -1404,6 +1458,9 @@ public final class BlackCabinet {
         }
 
         private long result(int law, Room r, int k, int skill) {
+            if (!told(law)) {
+                return 0;
+            }
             int top = 0;
             for (int i = from[law]; i < to[law] && i < MAX_TEXT; i++) {
                 int op = code[i];
@@ -1458,28 +1515,42 @@ public final class BlackCabinet {
             if (!room.hasLetter(k) || !room.hasHand(h)) {
                 return 0;
             }
-            return Math.max(lastOpened() + room.opening[k], free[h]) + room.copying(k, h);
+            return Math.max(lastOpened() + room.opening[k], free[h]) + room.copying[k * MAX_HANDS + h];
         }
 
         void add(int k, int h) {
             if (size >= MAX_LETTERS || !room.hasLetter(k) || !room.hasHand(h)) {
                 return;
             }
-            int done = copiedIf(k, h);
-            opened[size] = lastOpened() + room.opening[k];
-            copied[size] = done;
+            int open = lastOpened() + room.opening[k];
+            int done = Math.max(open, free[h]) + room.copying[k * MAX_HANDS + h];
             letters[size] = k;
             by[size] = h;
+            opened[size] = open;
+            copied[size] = done;
             freeBefore[size] = free[h];
             free[h] = done;
+            taken |= 1 << k;
             int at = size;
             while (at > 0 && copied[order[at - 1]] > done) {
                 order[at] = order[at - 1];
                 at--;
             }
             order[at] = size;
-            taken |= 1 << k;
             size++;
+        }
+
+        /** Whether the last two the other way round are copied as soon: one sooner, or their hands by numbers. */
+        boolean isBetterSwapped() {
+            if (size < 2 || size > MAX_LETTERS) {
+                return false;
+            }
+            int last = size - 1;
+            int ahead = size - 2;
+            int start = ahead > 0 ? opened[ahead - 1] : 0;
+            boolean aheadSame = freeBefore[ahead] >= opened[last] || opened[ahead] == opened[last];
+            boolean lastSame = freeBefore[last] >= opened[last] || opened[ahead] == start;
+            return by[ahead] != by[last] && aheadSame && (!lastSame || by[last] < by[ahead]);
         }
 
         void drop() {
@@ -1598,8 +1669,7 @@ public final class BlackCabinet {
                 return 1;
             }
             boolean gone = ((s.read | row.taken) >> k & 1) != 0;
-            boolean asleep = (s.awake >> h & 1) == 0;
-            if (gone || asleep || !room.reads(h, k)) {
+            if (gone || room.readersOf(k, s.awake & 1 << h) == 0) {
                 return 2;
             }
             row.add(k, h);
@@ -1624,15 +1694,14 @@ public final class BlackCabinet {
         }
 
         private int soonestHand(int k, int awake) {
+            int readers = room.readersOf(k, awake);
             int first = NONE;
             int soonest = 0;
             for (int h = 0; h < room.hands; h++) {
-                if ((awake >> h & 1) != 0 && room.reads(h, k)) {
-                    int done = row.copiedIf(k, h);
-                    if (first == NONE || done < soonest) {
-                        soonest = done;
-                        first = h;
-                    }
+                int done = row.copiedIf(k, h);
+                if ((readers >> h & 1) != 0 && (first == NONE || done < soonest)) {
+                    soonest = done;
+                    first = h;
                 }
             }
             return first;
@@ -1661,13 +1730,15 @@ public final class BlackCabinet {
 
         private final Room room;
         private final Row row;
+        /** For the hands awake in the search at hand: who reads each letter, and how soon it could be copied. */
+        private final int[] readers = new int[MAX_LETTERS];
         private final int[] quickest = new int[MAX_LETTERS];
-        private int awake = 0;
+        private int table = 0;
         private int found = NEVER;
         private int floor = 0;
+        private int open = 0;
         private int wantedWorth = 0;
         private int wantedSize = 0;
-        private int open = 0;
 
         private boolean planned = false;
         private int plannedRead = 0;
@@ -1687,63 +1758,63 @@ public final class BlackCabinet {
             planned = false;
         }
 
-        int mostWorth(int read, int hands, int noon) {
-            int left = room.allLetters() & ~read;
+        /** Worth of BEST of a set of letters. */
+        int mostWorth(int letters, int awake, int noon) {
+            useHands(awake);
             int most = 0;
-            for (int set = 0; set <= left; set++) {
-                if ((set & ~left) == 0 && soonest(hands, set) <= noon) {
+            for (int set = 0; set < SETS; set++) {
+                if ((set & ~letters) == 0 && soonest(set) <= noon) {
                     most = Math.max(most, room.worthOf(set));
                 }
             }
             return most;
         }
 
-        int soonest(int hands, int set) {
-            if (hands < 0 || hands >= HAND_SETS || set < 0 || set >= SETS) {
-                return NEVER;
-            }
-            if ((room.soonestKnown >> hands & 1) == 0) {
-                fillSoonest(hands);
-                room.soonestKnown |= 1 << hands;
-            }
-            return room.soonest[hands * SETS + set];
+        /** The soonest end of a row of a set of letters by the hands that useHands() told. */
+        int soonest(int set) {
+            return set >= 0 && set < SETS ? room.soonest[table + set] : NEVER;
         }
 
-        private void fillSoonest(int hands) {
-            useHands(hands);
-            int at = hands * SETS;
-            room.soonest[at] = 0;
-            for (int set = 1; set < SETS && set <= room.allLetters(); set++) {
-                // A letter less never ends a row later, so no set is sooner than its parts.
-                floor = 0;
-                for (int k = 0; k < room.letters; k++) {
-                    if ((set >> k & 1) != 0) {
-                        floor = Math.max(floor, room.soonest[at + (set & ~(1 << k))]);
+        void useHands(int awake) {
+            int hands = awake & HAND_SETS - 1;
+            table = hands * SETS;
+            for (int k = 0; k < room.letters && k < MAX_LETTERS; k++) {
+                readers[k] = room.readersOf(k, hands);
+                quickest[k] = NEVER;
+                for (int h = 0; h < room.hands; h++) {
+                    if ((readers[k] >> h & 1) != 0) {
+                        quickest[k] = Math.min(quickest[k], room.copyTime(k, h));
                     }
                 }
+            }
+            if ((room.soonestKnown >> hands & 1) == 0) {
+                fillSoonest();
+                room.soonestKnown |= 1 << hands;
+            }
+        }
+
+        private void fillSoonest() {
+            room.soonest[table] = 0;
+            for (int set = 1; set < SETS; set++) {
+                floor = (set & ~room.allLetters()) == 0 ? floorOf(set) : NEVER;
                 found = NEVER;
                 if (floor < NEVER) {
                     row.clear();
                     search(set, 0);
                 }
-                room.soonest[at + set] = found;
+                room.soonest[table + set] = found;
             }
         }
 
-        private void useHands(int hands) {
-            awake = hands;
-            for (int k = 0; k < room.letters && k < MAX_LETTERS; k++) {
-                quickest[k] = NEVER;
-                for (int h = 0; h < room.hands; h++) {
-                    if (canRead(h, k)) {
-                        quickest[k] = Math.min(quickest[k], room.copying(k, h));
-                    }
+        /** A letter less never ends a row later, so no set is sooner than its parts. */
+        private int floorOf(int set) {
+            int latest = 0;
+            for (int k = 0; k < room.letters; k++) {
+                if ((set >> k & 1) != 0) {
+                    latest = Math.max(latest, soonest(set & ~(1 << k)));
                 }
             }
-        }
-
-        private boolean canRead(int h, int k) {
-            return (awake >> h & 1) != 0 && room.reads(h, k);
+            return latest;
         }
 
         private void search(int rest, int depth) {
@@ -1751,12 +1822,13 @@ public final class BlackCabinet {
                 found = Math.min(found, row.end());
                 return;
             }
-            for (int k = 0; k < room.letters; k++) {
-                for (int h = 0; h < room.hands; h++) {
-                    if ((rest >> k & 1) != 0 && canRead(h, k) && found > floor) {
+            for (int k = 0; k < room.letters && k < MAX_LETTERS; k++) {
+                int hands = (rest >> k & 1) != 0 ? readers[k] : 0;
+                int left = rest & ~(1 << k);
+                for (int h = 0; h < room.hands && found > floor; h++) {
+                    if ((hands >> h & 1) != 0) {
                         row.add(k, h);
-                        int left = rest & ~(1 << k);
-                        if (leastEnd(left) < found) {
+                        if (!row.isBetterSwapped() && leastEnd(left) < found) {
                             search(left, depth + 1);
                         }
                         row.drop();
@@ -1771,6 +1843,7 @@ public final class BlackCabinet {
                 return row.end();
             }
             int opened = row.lastOpened();
+            int alone = opened + soonest(left);
             int lastOpened = opened;
             int copied = Integer.MAX_VALUE;
             int behind = Integer.MAX_VALUE;
@@ -1783,33 +1856,32 @@ public final class BlackCabinet {
                     behind = Math.min(behind, quickest[k] + room.mending[k]);
                 }
             }
-            return Math.max(lastOpened + behind, row.endWith(copied, work));
+            return Math.max(alone, Math.max(lastOpened + behind, row.endWith(copied, work)));
         }
 
         /** BEST by NOON; kept, as many calls ask for the same. */
-        void plan(int read, int hands) {
-            if (planned && plannedRead == read && plannedAwake == hands) {
+        void plan(int read, int awake) {
+            if (planned && plannedRead == read && plannedAwake == awake) {
                 return;
             }
             planned = true;
             plannedRead = read;
-            plannedAwake = hands;
+            plannedAwake = awake;
             open = room.allLetters() & ~read;
-            wantedWorth = mostWorth(read, hands, room.noon);
+            wantedWorth = mostWorth(open, awake, room.noon);
             wantedSize = MAX_LETTERS;
             for (int set = 0; set < SETS; set++) {
-                if (isOpenInTime(set, hands) && room.worthOf(set) == wantedWorth) {
+                if (hasWantedWorth(set)) {
                     wantedSize = Math.min(wantedSize, Integer.bitCount(set));
                 }
             }
-            useHands(hands);
             row.clear();
             spell(0);
             keepPlan();
         }
 
-        private boolean isOpenInTime(int set, int hands) {
-            return (set & ~open) == 0 && soonest(hands, set) <= room.noon;
+        private boolean hasWantedWorth(int set) {
+            return (set & ~open) == 0 && soonest(set) <= room.noon && room.worthOf(set) == wantedWorth;
         }
 
         private void keepPlan() {
@@ -1828,8 +1900,9 @@ public final class BlackCabinet {
                 return row.size == wantedSize;
             }
             for (int h = 0; h < room.hands; h++) {
-                for (int k = 0; k < room.letters; k++) {
-                    if (((open & ~row.taken) >> k & 1) != 0 && canRead(h, k)) {
+                for (int k = 0; k < room.letters && k < MAX_LETTERS; k++) {
+                    boolean free = ((open & ~row.taken) >> k & 1) != 0;
+                    if (free && (readers[k] >> h & 1) != 0) {
                         row.add(k, h);
                         if (canBeWanted() && spell(depth + 1)) {
                             return true;
@@ -1842,10 +1915,9 @@ public final class BlackCabinet {
         }
 
         private boolean canBeWanted() {
-            for (int set = row.taken; set <= open; set++) {
-                boolean wanted = (row.taken & ~set) == 0 && Integer.bitCount(set) == wantedSize
-                    && isOpenInTime(set, awake) && room.worthOf(set) == wantedWorth;
-                if (wanted && leastEnd(set & ~row.taken) <= room.noon) {
+            for (int set = row.taken; set < SETS; set++) {
+                boolean whole = (row.taken & ~set) == 0 && Integer.bitCount(set) == wantedSize;
+                if (whole && hasWantedWorth(set) && leastEnd(set & ~row.taken) <= room.noon) {
                     return true;
                 }
             }
@@ -1872,6 +1944,8 @@ public final class BlackCabinet {
         private final int[] fits = new int[(ALL + 31) / 32];
         private final int[] shifts = new int[MAX_SHIFTS];
         private int round = 1;
+        /** Shifts of keys that fit, as bits: the one of one, the two of two, the three of three. */
+        private final int[] seen = new int[6];
 
         Cipher(Room room) {
             this.room = room;
@@ -1897,7 +1971,8 @@ public final class BlackCabinet {
             if (room.nameLength < 1) {
                 return;
             }
-            for (round = 1; round <= MAX_SHIFTS; round++) {
+            for (int turns = 1; turns <= MAX_SHIFTS; turns++) {
+                round = turns;
                 for (int at = 0; at + room.nameLength <= length; at++) {
                     if (shiftsFor(at)) {
                         markKeys();
@@ -1957,21 +2032,26 @@ public final class BlackCabinet {
         int nth(int n) {
             int left = n;
             for (int i = 0; i < fits.length; i++) {
-                int here = Integer.bitCount(fits[i]);
-                if (left < here) {
+                int some = Integer.bitCount(fits[i]);
+                if (left < some) {
                     return numberOf(32 * i + nthBit(fits[i], left));
                 }
-                left -= here;
+                left -= some;
             }
             return NONE;
         }
 
         private static int nthBit(int bits, int n) {
-            int left = bits;
-            for (int i = 0; i < n; i++) {
-                left &= left - 1;
+            int left = n;
+            for (int i = 0; i < 32; i++) {
+                if ((bits >> i & 1) != 0) {
+                    if (left == 0) {
+                        return i;
+                    }
+                    left--;
+                }
             }
-            return Integer.numberOfTrailingZeros(left);
+            return 0;
         }
 
         private static int numberOf(int index) {
@@ -2041,7 +2121,7 @@ public final class BlackCabinet {
 
         /** At one place unlike shifts make unlike letters, so shifts are counted in their stead. */
         int mostUnlike() {
-            int[] seen = shiftsSeen();
+            findShifts();
             int first = NONE;
             int most = 0;
             for (int i = 0; i < length; i++) {
@@ -2054,9 +2134,8 @@ public final class BlackCabinet {
             return first;
         }
 
-        /** As bits, of the one of one shift, the two of two, the three of three. */
-        private int[] shiftsSeen() {
-            int[] seen = new int[6];
+        private void findShifts() {
+            Arrays.fill(seen, 0);
             for (int index = 0; index < ALL; index++) {
                 if ((fits[index >> 5] >> (index & 31) & 1) != 0) {
                     setShifts(index);
@@ -2066,7 +2145,6 @@ public final class BlackCabinet {
                     }
                 }
             }
-            return seen;
         }
     }
 }
