@@ -337,7 +337,8 @@ public final class BlackCabinet {
         if (noon < 0 || noon > MAX_MINUTE) {
             return NO_NUMBER;
         }
-        return planner.mostWorth(here.allLetters() & ~stand.read, stand.awake, noon);
+        planner.useHands(stand.awake);
+        return planner.mostWorth(here.allLetters() & ~stand.read, noon);
     }
 
     public int noonFor(int worth) {
@@ -360,17 +361,20 @@ public final class BlackCabinet {
             return NO_SUCH;
         }
         int open = here.allLetters() & ~stand.read;
-        return planner.mostWorth(open, stand.awake, here.noon)
-            - planner.mostWorth(open, stand.awake & ~(1 << h), here.noon);
+        planner.useHands(stand.awake);
+        int with = planner.mostWorth(open, here.noon);
+        planner.useHands(stand.awake & ~(1 << h));
+        return with - planner.mostWorth(open, here.noon);
     }
 
     public int hindrance() {
+        planner.useHands(stand.awake);
         int open = here.allLetters() & ~stand.read;
         int first = NONE;
         int most = -1;
         for (int k = 0; k < here.letters; k++) {
             if ((open >> k & 1) != 0) {
-                int left = planner.mostWorth(open & ~(1 << k), stand.awake, here.noon);
+                int left = planner.mostWorth(open & ~(1 << k), here.noon);
                 if (left > most) {
                     most = left;
                     first = k;
@@ -1324,7 +1328,14 @@ public final class BlackCabinet {
                     return fail(4);
                 }
                 at++;
-                return readSum(law, depth + 1) && takeToken(')');
+                if (!readSum(law, depth + 1)) {
+                    return false;
+                }
+                if (kinds[at] != ')') {
+                    return fail(2);
+                }
+                at++;
+                return true;
             }
             int op = atomOp(law);
             if (op == NONE) {
@@ -1758,9 +1769,8 @@ public final class BlackCabinet {
             planned = false;
         }
 
-        /** Worth of BEST of a set of letters. */
-        int mostWorth(int letters, int awake, int noon) {
-            useHands(awake);
+        /** Worth of BEST of a set of letters by the hands that useHands() told. */
+        int mostWorth(int letters, int noon) {
             int most = 0;
             for (int set = 0; set < SETS; set++) {
                 if ((set & ~letters) == 0 && soonest(set) <= noon) {
@@ -1868,7 +1878,8 @@ public final class BlackCabinet {
             plannedRead = read;
             plannedAwake = awake;
             open = room.allLetters() & ~read;
-            wantedWorth = mostWorth(open, awake, room.noon);
+            useHands(awake);
+            wantedWorth = mostWorth(open, room.noon);
             wantedSize = MAX_LETTERS;
             for (int set = 0; set < SETS; set++) {
                 if (hasWantedWorth(set)) {
