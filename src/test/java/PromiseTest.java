@@ -273,6 +273,15 @@ public final class PromiseTest {
         fault("noon 9;opens:(((((((1)))))));", 4, 19);
         fault("noon 9;opens:((1)*(((((((1)))))));", 4, 23);
         fault("noon 9;spy;Noon", 2, 7);
+        fault(";".repeat(900), 2, 0);
+        fault("noon 9;opens:" + "1+".repeat(443) + ";", 2, 899);
+        BlackCabinet x = new BlackCabinet();
+        feed(x, "noon 1000;");
+        due("3: the text ends within a number", x.room(8), -32);
+        due("4: at its end", x.fault(1), 8);
+        feed(x, "noon 9;courts 1;");
+        due("3: the text ends within a word", x.room(12), -32);
+        due("4: at its end", x.fault(1), 12);
     }
 
     private static void theLaws() {
@@ -567,6 +576,10 @@ public final class PromiseTest {
         x = in("noon 999;".replace("999", "300") + "hand 0;court 1;letter 0 tongue 0 pages 99 worth 7;copies:990;");
         due("23: by 999", x.bestBy(999), 7);
         due("24: 995", x.noonFor(7), 995);
+        x = in("noon 300;hand 0;court 1;letter 0 tongue 0 worth 7;copies:994;");
+        due("24: 999 is the last", x.noonFor(7), 999);
+        x = in("noon 300;hand 0;court 1;letter 0 tongue 0 worth 7;copies:995;");
+        due("24: 1000 is not", x.noonFor(7), -1);
         x = in("noon 300;hand 0;court 1;letter 0 tongue 0 worth 7;copies:999;");
         due("24: not by 999", x.noonFor(7), -1);
         x = in("noon 1;hand 0;court 1;letter 0 tongue 0 worth 7;copies:0;opens:0;mends:0;");
@@ -715,6 +728,8 @@ public final class PromiseTest {
             x.numbers(1, 0, 2);
             due("41: no key " + key, x.plain(0, key, 1), -3);
         }
+        due("40: the first of two", x.place(0, 100), -1);
+        due("40: the first of three", x.place(0, 1000), -1);
         due("40: the last of two", x.place(0, 775), -1);
         due("40: the last of three", x.place(0, 18575), -1);
         fillText(x, 0, "zabcd");
