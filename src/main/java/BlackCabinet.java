@@ -1035,7 +1035,7 @@ public final class BlackCabinet {
         private void scan(int length) {
             int tokens = 0;
             int from = 0;
-            while (from < length && tokens < MAX_TEXT) {
+            for (int i = 0; i < MAX_TEXT && from < length; i++) {
                 int to = from + 1;
                 if (text[from] != 10 && text[from] != 32) {
                     to = tokenEnd(from, length);
