@@ -186,6 +186,7 @@ public final class BlackCabinet {
 
     public int seed(int n) {
         int was = stand.x;
+        past.keep(stand);
         stand.x = n;
         return was;
     }

@@ -180,7 +180,7 @@ public final class ModelTest {
                 case 3: { int w = about(3); check("takes(" + k + ", " + w + ")", real.takes(k, w), model.takes(k, w)); break; }
                 case 4: check("copies(" + k + ", " + h + ")", real.copies(k, h), model.copies(k, h)); break;
                 case 5: { int i = about(9); check("name(" + i + ")", real.name(i), model.name(i)); break; }
-                case 6: { int n = random.nextInt(); check("seed(" + n + ")", real.seed(n), model.seed(n)); break; }
+                case 6: { int n = upTo(2) == 0 ? model.now.x : random.nextInt(); check("seed(" + n + ")", real.seed(n), model.seed(n)); check("count(9)", real.count(9), model.count(9)); break; }
                 case 7: check("morning(" + t + ")", real.morning(t), model.morning(t)); undoSome(); break;
                 case 8: check("byRule()", real.byRule(), model.byRule()); undoSome(); break;
                 case 9: check("sleeps(" + h + ")", real.sleeps(h), model.sleeps(h)); break;
@@ -223,8 +223,11 @@ public final class ModelTest {
             check("count(5)", real.count(5), model.count(5));
             if (upTo(4) > 0) {
                 check("undo(1)", real.undo(1), model.undo(1));
-                int x = model.now.x;
-                check("seed(" + x + ")", real.seed(x), model.seed(x));
+                int n = random.nextInt();
+                check("seed(" + n + ")", real.seed(n), model.seed(n));
+                if (upTo(4) > 0) {
+                    check("undo(1)", real.undo(1), model.undo(1));
+                }
             }
         }
 
@@ -827,12 +830,17 @@ public final class ModelTest {
 
         int seed(int n) {
             int was = now.x;
-            now = new State(now.read, now.found, now.awake, now.days, n);
+            keep();
+            setX(n);
             return was;
         }
 
+        void setX(int n) {
+            now = new State(now.read, now.found, now.awake, now.days, n);
+        }
+
         int draw() {
-            seed(1103515245 * now.x + 12345);
+            setX(1103515245 * now.x + 12345);
             return now.x >>> 16;
         }
 
@@ -1026,7 +1034,7 @@ public final class ModelTest {
                 return -5;
             }
             keep();
-            seed(seed);
+            setX(seed);
             for (int i = 0; i < times; i++) {
                 int way = draw() % 3;
                 deed(new ArrayList<>(), way == 0 ? 200 : 300 + draw() % hands.size());

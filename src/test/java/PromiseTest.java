@@ -64,6 +64,13 @@ public final class PromiseTest {
         return x;
     }
 
+    /** What x is; the call that tells it is undone, as it changes x and can be undone itself. */
+    private static int drawn(BlackCabinet x) {
+        int was = x.seed(0);
+        x.undo(1);
+        return was;
+    }
+
     private static void fill(BlackCabinet x, int tray, long... numbers) {
         x.numbers(tray, 2, numbers.length);
         for (int i = 0; i < numbers.length; i++) {
@@ -154,7 +161,7 @@ public final class PromiseTest {
         due("3: a fault", load(x, "noon 9;spy;"), -32);
         due("3: all stays with a fault: lines", x.count(11), 10);
         due("3: READ stays", x.count(4), 3);
-        due("3: what can be undone stays", x.count(9), 2);
+        due("3: what can be undone stays", x.count(9), 3);
         due("3: x stays", x.seed(9), 9);
         due("3: but not the tape", x.count(10), 0);
         due("3: again", load(x, FIRST), 10);
@@ -323,7 +330,13 @@ public final class PromiseTest {
         BlackCabinet x = in(SHOWN);
         due("11: seed", x.seed(-5), 0);
         due("11: what it was", x.seed(0), -5);
-        due("11: can't be undone", x.count(9), 0);
+        due("15: each can be undone", x.count(9), 2);
+        due("15: the latest seed", x.undo(1), 1);
+        due("15: x is as told ahead of it", drawn(x), -5);
+        due("15: the other seed too", x.undo(1), 0);
+        due("15: x is as at first", drawn(x), 0);
+        due("11: what it is already", x.seed(0), 0);
+        due("15: can be undone too", x.undo(1), 0);
         due("12: no such tray", x.morning(4), -2);
         due("12: no such tray", x.morning(-1), -2);
         due("12: missing", x.morning(0), -6);
@@ -335,7 +348,7 @@ public final class PromiseTest {
         due("5: READ", x.letter(1, 7), 1);
         due("5: not FOUND OUT", x.letter(1, 8), 0);
         due("5: FOUND OUT", x.letter(0, 8), 1);
-        due("12: x drew twice", x.seed(0), 1103515245 * 12345 + 12345);
+        due("12: x drew twice", drawn(x), 1103515245 * 12345 + 12345);
         due("12: it was read", x.morning(0), -12);
         fill(x, 0, 2, 3);
         due("12: no such letter, nothing is done", x.morning(0), -11);
@@ -354,7 +367,21 @@ public final class PromiseTest {
         due("15: both can be undone", x.undo(2), 0);
         due("15: READ", x.count(4), 0);
         due("15: DAYS", x.count(6), 0);
-        due("15: x too", x.seed(0), 0);
+        due("15: x too", drawn(x), 0);
+        x.seed(6);
+        fill(x, 0, 0, 11);
+        x.morning(0);
+        due("15: the morning alone", x.undo(1), 1);
+        due("15: x as the seed told it", drawn(x), 6);
+        due("15: READ", x.count(4), 0);
+        due("15: then the seed", x.undo(1), 0);
+        due("15: x ahead of it", drawn(x), 0);
+        for (int i = 1; i <= 12; i++) {
+            x.seed(i);
+        }
+        due("15: ten seeds at most", x.count(9), 10);
+        due("15: a seed and those ahead", x.undo(10), 0);
+        due("15: two of twelve seeds stay", drawn(x), 2);
 
         x = in("noon 20;hand 0;court 1;letter 0 tongue 0 pages 3;letter 0 tongue 0 pages 3;letter 0 tongue 1;");
         fill(x, 0, 0);
@@ -408,7 +435,7 @@ public final class PromiseTest {
         due("16: READ then", x.judge(0, 2), 1);
         due("16: DAYS then", x.judge(0, 3), 1);
         due("16: nothing is done", x.count(4), 0);
-        due("16: nor drawn", x.seed(0), 0);
+        due("16: nor drawn", drawn(x), 0);
         due("17: how many", x.perform(0), 4);
         due("17: what is in the row is left", x.count(4), 1);
         due("17: it showed", x.count(5), 1);
@@ -832,7 +859,7 @@ public final class PromiseTest {
         x.sleeps(1);
         x.seed(77);
         due("46: image(1)", x.image(1), 0);
-        due("46: undoing goes on", x.count(9), 2);
+        due("46: undoing goes on", x.count(9), 3);
         int found = x.count(5);
         load(x, "noon 9;hand 3;");
         due("47: restore(1)", x.restore(1), 0);
