@@ -303,7 +303,6 @@ public final class BlackCabinet {
         if (doer.why != 0 || i >= line.size || i >= MAX_LETTERS) {
             return NONE;
         }
-        line.end();
         if (what == 0) {
             return line.opened[i];
         }
