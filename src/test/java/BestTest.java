@@ -23,7 +23,7 @@ public final class BestTest {
     private static int bestSet;
 
     public static void main(String[] args) {
-        int rooms = args.length > 0 ? Integer.parseInt(args[0]) : 25;
+        int rooms = args.length > 0 ? Integer.parseInt(args[0]) : 120;
         long first = args.length > 1 ? Long.parseLong(args[1]) : 1;
         for (int i = 0; i < rooms; i++) {
             oneRoom(new Random(first + i));
@@ -77,7 +77,7 @@ public final class BestTest {
     }
 
     private static String roomText(Random random) {
-        String[] opening = {"2", "seal", "sign", "seal + 1", "pages", "0", "seal * 3"};
+        String[] opening = {"2", "seal", "sign", "seal + 1", "pages", "0", "seal * 3", "sign - 4", "(seal - 6) * 5"};
         String[] copying = {"pages * 5 - skill", "pages * (10 - skill)", "pages * 3 + tongue * skill", "pages + 20 - skill", "sign * sign", "0"};
         String[] mending = {"seal + 3", "sign", "seal", "1", "pages", "seal * 5", "0"};
         StringBuilder s = new StringBuilder("noon " + (10 + random.nextInt(random.nextBoolean() ? 100 : 200)) + ";");

@@ -362,9 +362,9 @@ public final class Promises43To48Test extends Cases {
         BlackCabinet x = in(alike(4, 2, 3));
         dueAll(x::best, 2, 2, 3, 4);
         x.image(0);
-        read(x, alike(3, 2, 3).replace("letter 0 tongue 0;opens", "letter 0 tongue 0 worth 9;opens"));
-        dueAll(x::best, 9, 1, 4, 3);
-        due(x.without(0), 0);
+        read(x, alike(20, 2, 3) + "copies:9;");
+        dueAll(x::best, 3, 3, 7, 20);
+        due(x.without(0), 1);
         x.restore(0);
         dueAll(x::best, 2, 2, 3, 4);
         due(x.noonFor(3), 5);
