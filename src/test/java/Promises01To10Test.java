@@ -47,6 +47,18 @@ public final class Promises01To10Test extends Cases {
         due(x.now(), 5000);
     }
 
+    static void promise1_thereIsNone() {
+        due(BlackCabinet.NONE, -1);
+    }
+
+    static void promise1_the512thCallIsAnswered() {
+        BlackCabinet x = new BlackCabinet();
+        for (int i = 1; i <= 511; i++) {
+            due(x.seed(i), i - 1);
+        }
+        due(x.undo(10), 0);
+    }
+
     // ---- 2: feed
 
     static void promise2_twentyBytesMoreEach() {
