@@ -1738,6 +1738,8 @@ public final class BlackCabinet {
     /** BEST: for each set of letters the soonest end of a row of them tells what can be read by any noon. */
     private static final class Planner {
         private static final int NEVER = MAX_MINUTE + 1;
+        /** Later than any row can end. */
+        private static final int FAR = 1000000;
 
         private final Room room;
         private final Row row;
@@ -1855,8 +1857,8 @@ public final class BlackCabinet {
             int opened = row.lastOpened();
             int alone = opened + soonest(left);
             int lastOpened = opened;
-            int copied = Integer.MAX_VALUE;
-            int behind = Integer.MAX_VALUE;
+            int copied = FAR;
+            int behind = FAR;
             int work = 0;
             for (int k = 0; k < room.letters && k < MAX_LETTERS; k++) {
                 if ((left >> k & 1) != 0) {

@@ -146,7 +146,21 @@ public final class FaceTest {
         if (s.chars().anyMatch(c -> c > 126)) {
             breach("the source has a sign above 126");
         }
+        library(s);
         methodLengths(s);
+    }
+
+    /** Rule 4 names functions of the library alone, so a constant of it (Integer.MAX_VALUE) is a breach too. */
+    private static void library(String s) {
+        Matcher m = Pattern.compile("\\b(Integer|Long|Math|System|Arrays|List|String|StringBuilder)\\s*\\.\\s*(\\w+)(\\s*\\()?").matcher(s);
+        while (m.find()) {
+            boolean known = m.group(1).matches("Integer|Long|Math") ? !m.group(2).endsWith("Exact")
+                : Set.of("System.arraycopy", "Arrays.copyOf", "Arrays.copyOfRange", "Arrays.fill", "List.of")
+                    .contains(m.group(1) + "." + m.group(2));
+            if (!known || m.group(3) == null) {
+                breach("the source uses " + m.group());
+            }
+        }
     }
 
     private static void methodLengths(String s) {
